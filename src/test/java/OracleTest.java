@@ -18,7 +18,7 @@ public final class OracleTest {
     private OracleTest(int run) {
         this.run = run;
         random = new Random(run);
-        mostEaten = new int[] {2, 5, 40, 300, 1000}[run % 5];
+        mostEaten = new int[] {2, 30, 40, 300, 1000}[run % 5];
         marksUsed = new int[] {255, 7, 0x55, 31, 0xF0, 255, 3}[run % 7];
     }
 
@@ -30,6 +30,9 @@ public final class OracleTest {
             }
             if (run % 4 == 0) {
                 test.fillMinutes();
+            }
+            if (run % 5 == 1) {
+                test.fillSizes();
             }
             for (int call = 0; call < 150 && Check.isGood(); call++) {
                 test.anyCall(call);
@@ -52,6 +55,19 @@ public final class OracleTest {
             quick.day(marks);
             slow.day(marks);
         }
+    }
+
+    /** Four small sizes of a price for each portion, or one for all, so that many sets are of equal cost. */
+    private void fillSizes() {
+        boolean isOneForAll = random.nextBoolean();
+        for (int s = 0; s < 4; s++) {
+            int portions = 1 + random.nextInt(6);
+            int price = isOneForAll ? 2 : portions;
+            quick.size(portions, price);
+            slow.size(portions, price);
+        }
+        quick.prices(5, 9);
+        slow.prices(5, 9);
     }
 
     private void fillMinutes() {
