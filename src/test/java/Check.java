@@ -1,3 +1,6 @@
+import java.lang.reflect.InvocationTargetException;
+import java.lang.reflect.Method;
+
 /** What the tests share: an answer as a text, a comparison, and the end of a test. */
 final class Check {
     static final String INDEX = "throws.IndexOutOfBoundsException";
@@ -20,6 +23,24 @@ final class Check {
             return Long.toString(call.run());
         } catch (RuntimeException e) {
             return "throws." + e.getClass().getSimpleName();
+        }
+    }
+
+    /** The answer of a call by its name: an exception is told by its class, as in answer(). */
+    static String ask(Object canteen, String name, int... arguments) {
+        Class<?>[] types = new Class<?>[arguments.length];
+        Object[] values = new Object[arguments.length];
+        for (int i = 0; i < arguments.length; i++) {
+            types[i] = int.class;
+            values[i] = arguments[i];
+        }
+        try {
+            Method method = canteen.getClass().getDeclaredMethod(name, types);
+            return String.valueOf(method.invoke(canteen, values));
+        } catch (InvocationTargetException e) {
+            return "throws." + e.getCause().getClass().getSimpleName();
+        } catch (ReflectiveOperationException e) {
+            return "throws nothing, for it is not to be called: " + e;
         }
     }
 

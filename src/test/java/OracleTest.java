@@ -1,12 +1,11 @@
-import java.lang.reflect.InvocationTargetException;
-import java.lang.reflect.Method;
 import java.util.Arrays;
 import java.util.Random;
 
 /** Random runs of up to 512 calls, each call's answer against SlowCanteen's. The seeds are fixed. */
 public final class OracleTest {
     private static final String[] CALLS = {"meal", "ate", "ate", "ate", "day", "day", "day", "drop", "leaves", "split",
-        "leaf", "size", "prices", "cost", "pots", "ladles", "ladle", "come", "come", "hatch", "serve", "empty", "count"};
+        "leaf", "size", "prices", "cost", "pots", "ladles", "ladle", "come", "come", "hatch", "serve", "empty",
+        "count"};
 
     private final CanteenPlan quick = new CanteenPlan();
     private final SlowCanteen slow = new SlowCanteen();
@@ -139,7 +138,7 @@ public final class OracleTest {
         }
         int[] a = arguments(name);
         String where = "run " + run + ", call " + call + ": " + name + " " + Arrays.toString(a);
-        Check.same(where, ask(quick, name, a), ask(slow, name, a));
+        Check.same(where, Check.ask(quick, name, a), Check.ask(slow, name, a));
     }
 
     private int[] arguments(String name) {
@@ -178,24 +177,6 @@ public final class OracleTest {
                 return new int[] {number(0, 4)};
             default:
                 return new int[0];
-        }
-    }
-
-    /** Both have the same names and parameters, so one way to ask them serves. */
-    private static String ask(Object canteen, String name, int[] arguments) {
-        Class<?>[] types = new Class<?>[arguments.length];
-        Object[] values = new Object[arguments.length];
-        for (int i = 0; i < arguments.length; i++) {
-            types[i] = int.class;
-            values[i] = arguments[i];
-        }
-        try {
-            Method method = canteen.getClass().getDeclaredMethod(name, types);
-            return String.valueOf(method.invoke(canteen, values));
-        } catch (InvocationTargetException e) {
-            return "throws." + e.getCause().getClass().getSimpleName();
-        } catch (ReflectiveOperationException e) {
-            return name + " is not to be called: " + e;
         }
     }
 }

@@ -4,6 +4,7 @@ public final class PromiseTest {
 
     public static void main(String[] args) {
         newObject();
+        twoObjects();
         meal();
         ate();
         day();
@@ -45,6 +46,24 @@ public final class PromiseTest {
         x.day(0);
         Check.due("1 want is 3 at first", 30, () -> x.cost(0, 0, 0));
         Check.due("1 waste is 1 at first", 5, () -> x.cost(0, 0, 15));
+    }
+
+    private static void twoObjects() {
+        CanteenPlan x = withDays(1, 4, 1, 4, 0, 9, 0, 9);
+        CanteenPlan y = withDays(0, 7);
+        x.size(4, 1);
+        x.come(3);
+        y.meal(1, 1);
+        y.prices(0, 5);
+        Check.due("1 the other's day", 7, () -> y.leaf(0, 1, 1));
+        Check.due("1 the other's cost", 35, () -> y.cost(0, 0, 0));
+        Check.due("1 one's cost", 2, () -> x.cost(0, 1, 0));
+        Check.due("1 the other's pots", 0, () -> y.pots(0, 0, 0, 0));
+        Check.due("1 one's pots", 1, () -> x.pots(0, 1, 0, 0));
+        Check.due("1 the other's ladles", NONE, () -> y.ladles());
+        Check.due("1 one's ladles", 1, () -> x.ladles());
+        Check.due("1 the other's minutes", 0, () -> y.empty());
+        Check.due("1 one's minutes", 1, () -> x.empty());
     }
 
     private static void meal() {
