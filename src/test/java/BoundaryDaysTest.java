@@ -380,6 +380,28 @@ public final class BoundaryDaysTest {
             leaf 0 255 3 = 761
             leaf 0 126 2 = 260
             """);
+        Run.of("6 it was not parted by on the way here: but by the marks beside it", """
+            meal 0 0
+            days 2*0:0 2*1:1 2*2:10 2*3:11 2*4:100 2*5:101 2*6:110 2*7:111
+            leaves 0 = 8
+            split 0 7 0 = 2
+            split 0 7 1 = 1
+            split 0 7 2 = 0
+            split 0 0 2 = 0
+            split 0 7 3 = NONE
+            leaf 0 7 0 = 2
+            leaf 0 6 1 = 220
+            """);
+        Run.of("6 it was not parted by on the way here: from mark 7 down to mark 4, not 3", """
+            meal 0 0
+            days 4*0:0 4*248:800 4*128:400 4*192:600 4*224:700 4*240:760
+            split 0 255 0 = 7
+            split 0 255 1 = 6
+            split 0 255 2 = 5
+            split 0 255 3 = 4
+            split 0 255 4 = NONE
+            leaves 0 = 5
+            """);
         Run.of("6 it was not parted by on the way here", "meal 0 0; days 4*1:5 4*1:6 4*0:8 4*0:9; leaves 0 = 2; "
                 + "split 0 1 0 = 0; split 0 1 1 = NONE; split 0 0 1 = NONE");
     }
