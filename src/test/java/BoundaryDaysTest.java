@@ -8,6 +8,7 @@ public final class BoundaryDaysTest {
 
     public static void main(String[] args) {
         newObject();
+        twoObjects();
         mealBits();
         mealsFull();
         ateBounds();
@@ -38,6 +39,19 @@ public final class BoundaryDaysTest {
         // A static row would show in the object that is made behind a full one.
         Run.of("1 behind a full object: the full one", States.FULL);
         Run.of("1 behind a full object: a new one", States.NEW_STAYS);
+    }
+
+    private static void twoObjects() {
+        String some = States.SOME + States.SOME_STAYS;
+        String full = States.FULL + States.FULL_STAYS;
+        String emptyAgain = States.EMPTY_AGAIN + States.EMPTY_AGAIN_STAYS;
+        Run.byTurns("1 an object beside another: some, full", some, full);
+        Run.byTurns("1 an object beside another: full, some", full, some);
+        Run.byTurns("1 an object beside another: empty again, full", emptyAgain, full);
+        Run.byTurns("1 an object beside another: new, some", States.NEW + States.NEW_STAYS, some);
+        Run.byTurns("1 an object beside another: two that are alike", some, some);
+        Run.byTurns("1 an object beside another: other things in the meals",
+                "meal 1 2\n meal 2 1\n ladles = 2\n ladle 1 = 1", "meal 4 2\n meal 8 1\n ladles = 1\n ladle 1 = 0");
     }
 
     private static void mealBits() {
@@ -324,18 +338,8 @@ public final class BoundaryDaysTest {
             """);
     }
 
-    /** 64 days of which marks 0 to 4 each tell something, mark 0 the most: four days in each leaf, parted no more. */
-    private static String fiveMarks() {
-        StringBuilder days = new StringBuilder("meal 0 0;");
-        for (int day = 0; day < 64; day++) {
-            int marks = day & 31;
-            days.append("days ").append(marks).append(':').append(Integer.reverse(marks) >>> 27).append(';');
-        }
-        return days.toString();
-    }
-
     private static void marksOnTheWay() {
-        Run.of("6 fewer than 4 were: the fourth parts, the fifth not", fiveMarks(), """
+        Run.of("6 fewer than 4 were: the fourth parts, the fifth not", States.FIVE_MARKS, """
             leaves 0 = 16
             split 0 31 0 = 0
             split 0 31 3 = 3
@@ -481,7 +485,7 @@ public final class BoundaryDaysTest {
         Run.of("7 none: without days", "meal 0 0; split 0 0 0 = NONE; split 0 255 0 = NONE");
         Run.of("7 none: without days again", parted, "split 0 0 0 = 0; drop 0; drop 1; drop 2; drop 3; "
                 + "split 0 0 0 = NONE; split 0 255 1 = NONE");
-        Run.of("7 none: the fourth knot is parted, the fifth is the leaf", fiveMarks(),
+        Run.of("7 none: the fourth knot is parted, the fifth is the leaf", States.FIVE_MARKS,
                 "split 0 9 3 = 3; split 0 9 4 = NONE; split 0 9 5 = NONE; split 0 9 8 = NONE");
     }
 

@@ -226,5 +226,17 @@ public final class BoundaryLineTest {
     private static void calls() {
         Run.of("at most 512 calls: the last", "meal 0 0; days 2*1:5 2*0:9; 502 x leaves 0 = 2; leaf 0 0 1 = 18");
         Run.of("at most 512 calls: refused ones count too", "511 x meal 256 0 = ARGUMENT; meal 0 0 = 0");
+        // States.SOME has 24 calls
+        String[] others = {
+            "484 x meal 256 0 = ARGUMENT; 4 x meal 0 0", "4 x meal 0 0; 484 x meal 0 0 = STATE", "488 x ate 0 33 = 33",
+            "145 x day 0; 343 x day 0 = STATE", "488 x drop 4 = false", "488 x leaves 0 = 2", "488 x split 0 0 0 = 0",
+            "488 x leaf 0 1 1 = 9", "3 x size 1 1; 485 x size 1 1 = STATE", "488 x prices 2 7 = void",
+            "488 x cost 0 1 0 = 14", "488 x pots 0 1 0 0 = 2", "488 x ladles = 2", "488 x ladle 1 = 1",
+            "57 x come 1; 431 x come 1 = NONE", "488 x hatch 2 1 = 3", "488 x serve 3 = 2",
+            "empty = 3; 487 x empty = 0", "488 x count 2 = 5",
+        };
+        for (String calls : others) {
+            Run.of("at most 512 calls: " + calls, States.SOME, calls);
+        }
     }
 }

@@ -73,6 +73,7 @@ public final class FaceTest {
         List<String> seen = new ArrayList<>();
         for (Field field : CanteenPlan.class.getDeclaredFields()) {
             addIfSeen(seen, field);
+            Check.same(field + " is a constant if static", "" + isConstantIfStatic(field), "true");
         }
         Check.same("fields", seen.toString(), "[public static final NONE]");
         seen.clear();
@@ -88,6 +89,12 @@ public final class FaceTest {
         }
     }
 
+    /** The rules allow rows too that are written out and never changed, but the class needs none. */
+    private static boolean isConstantIfStatic(Field field) {
+        boolean isOneValue = field.getType().isPrimitive() || field.getType() == String.class;
+        return !Modifier.isStatic(field.getModifiers()) || Modifier.isFinal(field.getModifiers()) && isOneValue;
+    }
+
     /** LANGUAGE.md, rules 1 and 5. */
     private static void nestedClasses() {
         for (Class<?> nested : CanteenPlan.class.getDeclaredClasses()) {
@@ -95,8 +102,7 @@ public final class FaceTest {
             Check.same(nested + " is static and not seen from outside", "" + (Modifier.isStatic(modifiers)
                     && !Modifier.isPublic(modifiers) && !Modifier.isProtected(modifiers)), "true");
             for (Field field : nested.getDeclaredFields()) {
-                boolean isGood = !Modifier.isStatic(field.getModifiers()) || Modifier.isFinal(field.getModifiers());
-                Check.same(field + " is final if static", "" + isGood, "true");
+                Check.same(field + " is a constant if static", "" + isConstantIfStatic(field), "true");
             }
             for (Method method : nested.getDeclaredMethods()) {
                 boolean isFaceName = Arrays.stream(FACE).anyMatch(f -> f.contains(" " + method.getName() + "("));

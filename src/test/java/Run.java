@@ -1,3 +1,4 @@
+import java.util.List;
 import java.util.regex.Matcher;
 import java.util.regex.Pattern;
 
@@ -30,13 +31,31 @@ final class Run {
     static void of(String where, String... parts) {
         Run run = new Run(where);
         for (String part : parts) {
-            part.lines().map(line -> line.replaceFirst("#.*", "")).forEach(run::calls);
+            part.lines().forEach(run::calls);
         }
-        Check.same(where + ": within 512 calls", "" + (run.calls > 0 && run.calls <= MOST_CALLS), "true");
+        run.end();
+    }
+
+    /** Two runs on two objects that live at once, a line of the one and a line of the other by turns. */
+    static void byTurns(String where, String one, String other) {
+        Run first = new Run(where + ", the one");
+        Run second = new Run(where + ", the other");
+        List<String> linesOfOne = one.lines().toList();
+        List<String> linesOfOther = other.lines().toList();
+        for (int i = 0; i < Math.max(linesOfOne.size(), linesOfOther.size()); i++) {
+            first.calls(i < linesOfOne.size() ? linesOfOne.get(i) : "");
+            second.calls(i < linesOfOther.size() ? linesOfOther.get(i) : "");
+        }
+        first.end();
+        second.end();
+    }
+
+    private void end() {
+        Check.same(where + ": within 512 calls", "" + (calls > 0 && calls <= MOST_CALLS), "true");
     }
 
     private void calls(String line) {
-        for (String call : line.split(";")) {
+        for (String call : line.replaceFirst("#.*", "").split(";")) {
             if (!call.isBlank()) {
                 line(call.strip());
             }

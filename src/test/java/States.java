@@ -197,7 +197,32 @@ final class States {
         cost 0 1 0 = NONE
         """;
 
+    /** Two meals: mark 0 tells how many eat the first, mark 1 how many eat the second, the other mark a little more. */
+    static final String TWO_TREES = """
+        2 x meal 0 0
+        ate 0 10; ate 1 50; day 3
+        ate 0 10; ate 1 50; day 3
+        ate 0 10; ate 1 20; day 1
+        ate 0 12; ate 1 20; day 1
+        ate 0 40; ate 1 50; day 2
+        ate 0 40; ate 1 50; day 2
+        ate 0 40; ate 1 20; day 0
+        ate 0 40; ate 1 23; day 0
+        """;
+
+    /** 64 days of which marks 0 to 4 each tell something, mark 0 the most: four days in each leaf, parted no more. */
+    static final String FIVE_MARKS = fiveMarks();
+
     private States() {
+    }
+
+    private static String fiveMarks() {
+        StringBuilder run = new StringBuilder("meal 0 0\n");
+        for (int day = 0; day < 64; day++) {
+            int marks = day & 31;
+            run.append("days " + marks + ":" + (Integer.reverse(marks) >>> 27) + "\n");
+        }
+        return run.toString();
     }
 
     private static String full() {
